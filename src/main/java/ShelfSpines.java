@@ -1189,30 +1189,30 @@ public final class ShelfSpines {
             for (int cost = 0; cost <= highest && cost <= MOST_COST; cost++) {
                 for (int node = first; node < end; node++) {
                     if (settled.get(node) == cost) {
-                        highest = Math.max(highest, offerBack(shelf, node, cost));
+                        highest = Math.max(highest, offerBack(shelf, settled, node));
                     }
                 }
             }
         }
 
-        /** Offers the words ahead of a settled one their way over it; tells the highest offer that was taken. */
-        private int offerBack(Shelf shelf, int node, int cost) {
-            int highest = cost;
+        /** Offers the words ahead of one their way over it; tells the highest offer that was taken, or NONE. */
+        private int offerBack(Shelf shelf, Row costs, int node) {
+            int highest = NONE;
             for (int index = graph.intoStart.get(node); index < graph.intoEnd.get(node); index++) {
                 int step = graph.into.get(index);
                 int source = step / MOVES;
                 int move = step % MOVES;
-                int offer = cost + Spines.price(graph.words.get(source), shelf.weights, move);
-                int known = settled.get(source);
+                int offer = costs.get(node) + Spines.price(graph.words.get(source), shelf.weights, move);
+                int known = costs.get(source);
                 if ((known == NONE || offer < known) && !graph.isHeld(source, move, shelf.stuck)) {
-                    settled.put(source, offer);
+                    costs.put(source, offer);
                     highest = Math.max(highest, offer);
                 }
             }
             return highest;
         }
 
-        /** Lets words become cheaper by each of their moves, until none does. */
+        /** Lets all words offer their ways again and again, until none becomes cheaper. */
         private void lowerCosts(Shelf shelf) {
             int key = shelf.keyOfCosts();
             if (key == keyOfLowered) {
@@ -1226,25 +1226,11 @@ public final class ShelfSpines {
             for (int pass = 0; cheaper && pass <= MOST_WORDS; pass++) {
                 cheaper = false;
                 for (int node = first; node < end; node++) {
-                    if (becomesCheaper(shelf, node)) {
+                    if (lowered.get(node) != NONE && offerBack(shelf, lowered, node) != NONE) {
                         cheaper = true;
                     }
                 }
             }
-        }
-
-        private boolean becomesCheaper(Shelf shelf, int node) {
-            int before = lowered.get(node);
-            int best = before;
-            for (int move = 0; move < MOVES; move++) {
-                int target = graph.behind(node, move);
-                if (target != NONE && lowered.get(target) != NONE && !graph.isHeld(node, move, shelf.stuck)) {
-                    int way = lowered.get(target) + Spines.price(graph.words.get(node), shelf.weights, move);
-                    best = best == NONE ? way : Math.min(best, way);
-                }
-            }
-            lowered.put(node, best);
-            return best != before;
         }
     }
 
