@@ -455,7 +455,7 @@ public final class PromiseTest {
             int spent = y.count(9);
             int way = y.least(y.count(5), kind);
             int steps = 0;
-            for (int move = y.plan(kind == 1, 0); move >= 0; move = y.plan(kind == 1, 0)) {
+            for (int move = y.plan(kind == 1, 0); move >= 0 && steps < 50; move = y.plan(kind == 1, 0)) {
                 due("20: goes", y.whyNot(move), 0);
                 due("20: one after the other", steps, y.count(8) - made);
                 if (move < 7) {
