@@ -455,7 +455,7 @@ public final class ShelfSpines {
         }
 
         static int placeOf(int move) {
-            if (isPull(move)) {
+            if (move < FIRST_PUSH_RIGHT) {
                 return move;
             }
             return move < FIRST_PUSH_LEFT ? move - FIRST_PUSH_RIGHT : move - FIRST_PUSH_LEFT;
