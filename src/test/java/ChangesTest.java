@@ -13,9 +13,9 @@ public final class ChangesTest {
 
     private static final String FULL_PROGRAM = "p0r0l0p6r5l5".repeat(5);
 
-    /** ".bca..d", some of them stuck, with accounts, a snapshot of another state, and 4 different states behind. */
+    /** ".dfb..h", some of them stuck, with accounts, a snapshot of another state, and 4 different states behind. */
     private static ShelfSpines rich() {
-        ShelfSpines x = Given.stuck(Given.shelf("c.ba..d", "5.19..3"), 3, 6);
+        ShelfSpines x = Given.stuck(Given.shelf("f.db..h", "5.19..3"), 3, 6);
         x.pull(2);
         x.save();
         x.set(ShelfSpines.FALLING, 1);
@@ -24,7 +24,7 @@ public final class ChangesTest {
         return x;
     }
 
-    /** "cb.a..d", and just 2 states behind. */
+    /** "fd.b..h", and just 2 states behind. */
     private static ShelfSpines richWithTwoStates() {
         ShelfSpines x = rich();
         x.undo();
@@ -61,16 +61,21 @@ public final class ChangesTest {
 
     private static Map<String, Call> changes() {
         Map<String, Call> calls = new LinkedHashMap<>();
-        calls.put("add", x -> x.add(25, 9, 5));
-        calls.put("remove", x -> x.remove(6));
-        calls.put("stick", x -> x.stick(6));
+        calls.put("add a", x -> x.add(0, 9, 5));
+        calls.put("add e", x -> x.add(4, 9, 5));
+        calls.put("add z", x -> x.add(25, 9, 5));
+        calls.put("remove b", x -> x.remove(3));
+        calls.put("remove d", x -> x.remove(1));
+        calls.put("remove h", x -> x.remove(6));
+        calls.put("stick", x -> x.stick(0));
+        calls.put("stick, loose then", x -> x.stick(6));
         calls.put("pull", x -> x.pull(0));
         calls.put("a pull that is refused", x -> x.pull(6));
         calls.put("push", x -> x.push(0, true));
         calls.put("a push that is refused", x -> x.push(0, false));
         calls.put("set", x -> x.set(ShelfSpines.CLOSED, 1));
         calls.put("set to what it is", x -> x.set(ShelfSpines.CLOSED, 0));
-        calls.put("arrange", x -> Given.type(x, "a..b.cd").arrange());
+        calls.put("arrange", x -> Given.type(x, "b..d.fh").arrange());
         calls.put("arrange as it is", x -> Given.type(x, Given.word(x)).arrange());
         calls.put("run", x -> Given.type(x, "p0r0l3").run());
         calls.put("restore", x -> x.restore());
@@ -221,9 +226,9 @@ public final class ChangesTest {
     private static void errorsAreRanked() {
         Due.says("Changes and errors", "INVALID_ARGUMENT is returned rather than NOT_POSSIBLE");
         ShelfSpines x = full();
-        Due.same("add, the letter is there", x.add(0, 0, 2), Given.INVALID);
-        Due.same("add, the place is taken", x.add(7, 10, 1), Given.INVALID);
-        Due.same("add, the letter is there", x.add(0, 1, 7), Given.INVALID);
+        Due.same("add, the letter is there", x.add(1, 0, 4), Given.INVALID);
+        Due.same("add, the place is taken", x.add(8, 10, 1), Given.INVALID);
+        Due.same("add, the letter is there", x.add(1, 1, 7), Given.INVALID);
         Due.same("add, the place is taken", x.add(26, 1, 1), Given.INVALID);
         Due.same("round, an empty pad", x.round(4), Given.INVALID);
         Due.same("round, an empty pad", x.round(-1), Given.INVALID);
@@ -232,11 +237,11 @@ public final class ChangesTest {
         Due.same("remove", new ShelfSpines().remove(7), Given.INVALID);
         Due.same("stick", new ShelfSpines().stick(-1), Given.INVALID);
         Due.says("Changes and errors", "NOT_POSSIBLE rather than LIMIT_REACHED");
-        Due.same("add, the letter is there", x.add(0, 1, 4), Given.IMPOSSIBLE);
-        Due.same("add, the place is taken", x.add(7, 1, 6), Given.IMPOSSIBLE);
-        Due.same("add, neither", x.add(7, 1, 4), Given.LIMIT);
+        Due.same("add, the letter is there", x.add(1, 1, 4), Given.IMPOSSIBLE);
+        Due.same("add, the place is taken", x.add(8, 1, 6), Given.IMPOSSIBLE);
+        Due.same("add, neither", x.add(8, 1, 4), Given.LIMIT);
         Due.says("Changes and errors", "and LIMIT_REACHED rather than NOT_FOUND.");
-        Due.same("add, the range and the limit", x.add(7, 1, 7), Given.INVALID);
+        Due.same("add, the range and the limit", x.add(8, 1, 7), Given.INVALID);
         Given.type(x, FULL_PROGRAM);
         Due.same("append, the range and the limit", x.append(32), Given.INVALID);
         Due.same("append, the range and the limit", x.append(127), Given.INVALID);
@@ -265,7 +270,7 @@ public final class ChangesTest {
         for (int[] w : wrong) {
             unchanged("add out of range", ChangesTest::rich, Given.INVALID, x -> x.add(w[0], w[1], w[2]));
         }
-        unchanged("add, the letter is there", ChangesTest::rich, Given.IMPOSSIBLE, x -> x.add(0, 1, 5));
+        unchanged("add, the letter is there", ChangesTest::rich, Given.IMPOSSIBLE, x -> x.add(1, 1, 5));
         unchanged("add, the place is taken", ChangesTest::rich, Given.IMPOSSIBLE, x -> x.add(25, 1, 6));
         unchanged("add to 5", ChangesTest::full, Given.LIMIT, x -> x.add(24, 1, 4));
         for (int place : new int[] {-1, 7}) {
@@ -294,11 +299,11 @@ public final class ChangesTest {
             unchanged("fault(" + way + ")", () -> richWithPad("p0p"), Given.INVALID, x -> x.fault(way));
         }
         unchanged("fault(0), none", () -> richWithPad("p0"), Given.NOWHERE, x -> x.fault(0));
-        unchanged("fault(1), none", () -> richWithPad("d.c.b.a"), Given.NOWHERE, x -> x.fault(1));
-        for (String text : new String[] {"", "d.c.b.", "d.c.b.a.", "d.c.b.d", "p0"}) {
+        unchanged("fault(1), none", () -> richWithPad("h.f.d.b"), Given.NOWHERE, x -> x.fault(1));
+        for (String text : new String[] {"", "h.f.d.", "h.f.d.b.", "h.f.d.h", "p0"}) {
             unchanged("arrange " + text, () -> richWithPad(text), Given.IMPOSSIBLE, x -> x.arrange());
         }
-        for (String text : new String[] {"", "p", "p0p", "p0p7", "p0p0..", "d.c.b.a"}) {
+        for (String text : new String[] {"", "p", "p0p", "p0p7", "p0p0..", "h.f.d.b"}) {
             unchanged("run " + text, () -> richWithPad(text), Given.IMPOSSIBLE, x -> x.run());
             unchanged("round of " + text, () -> richWithPad(text), Given.IMPOSSIBLE, x -> x.round(0));
         }

@@ -44,6 +44,11 @@ final class Given {
         return x;
     }
 
+    /** Makes a move by its number, as pull or push answers. */
+    static int make(ShelfSpines x, int move) {
+        return move < 7 ? x.pull(move) : x.push((move - 7) % 6, move < 13);
+    }
+
     private static char sign(int letter) {
         return letter == NOWHERE ? '.' : (char) ('a' + letter);
     }

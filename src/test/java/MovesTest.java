@@ -12,10 +12,6 @@ public final class MovesTest {
         return found.toString();
     }
 
-    private static int make(ShelfSpines x, int move) {
-        return move < 7 ? x.pull(move) : x.push((move - 7) % 6, move < 13);
-    }
-
     // ---- the section "Moves"
 
     private static void numbersOfPulls() {
@@ -46,7 +42,7 @@ public final class MovesTest {
             }
             for (int move = 7 + place; move < MOVES; move += 6) {
                 int rank = x.leads(move);
-                int reason = make(x, move);
+                int reason = Given.make(x, move);
                 Due.same("move " + move + " leads where the push leads", rank, reason == 0 ? x.count(5) : Given.IMPOSSIBLE);
                 x.undo();
             }
@@ -276,7 +272,7 @@ public final class MovesTest {
         Due.same("all", reasons(x), "0201121" + "403333" + "443333");
         for (int move = 0; move < MOVES; move++) {
             int why = x.whyNot(move);
-            int answer = make(x, move);
+            int answer = Given.make(x, move);
             Due.same("as move " + move + " does", why, answer < 10 ? answer : 0);
             x.undo();
         }
@@ -320,7 +316,7 @@ public final class MovesTest {
         for (int move = 0; move < MOVES; move++) {
             int rank = x.leads(move);
             boolean refused = x.whyNot(move) != 0;
-            make(x, move);
+            Given.make(x, move);
             Due.same("leads(" + move + ")", rank, refused ? Given.IMPOSSIBLE : x.count(5));
             x.undo();
         }

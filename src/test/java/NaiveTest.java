@@ -27,6 +27,17 @@ public final class NaiveTest {
         Due.same(run + calls + ": " + name, got, want);
     }
 
+    private void add(int letter, int weight, int place) {
+        due("add(" + letter + ", " + weight + ", " + place + ")", x.add(letter, weight, place), y.add(letter, weight, place));
+    }
+
+    private void addSome() {
+        int books = random.nextInt(few ? 4 : 6);
+        while (y.now.weights.size() < books) {
+            add(random.nextInt(random.nextBoolean() ? 7 : 26), 1 + random.nextInt(9), random.nextInt(7));
+        }
+    }
+
     private void change() {
         int a = below(7);
         int b = below(6);
@@ -37,9 +48,7 @@ public final class NaiveTest {
                 if (few && y.now.weights.size() >= 3 && random.nextInt(20) != 0) {
                     break;
                 }
-                int letter = random.nextBoolean() ? below(26) : random.nextInt(7);
-                int weight = 1 + below(9);
-                due("add(" + letter + ", " + weight + ", " + a + ")", x.add(letter, weight, a), y.add(letter, weight, a));
+                add(random.nextBoolean() ? below(26) : random.nextInt(7), 1 + below(9), a);
                 break;
             case 2:
                 if (random.nextInt(3) == 0) {
@@ -160,27 +169,44 @@ public final class NaiveTest {
         due("round(" + which + ")", x.round(which), y.round(which));
         due("loosen()", x.loosen(), y.loosen());
         due("all(" + of + ")", x.all(of), y.all(of));
+        calls++;
         Due.same(run + calls + ": mean()", x.mean(), y.mean());
     }
 
-    /** All that can be seen cheaply: an error must have changed nothing, a change all that it should. */
+    /** Some of what can be seen behind a change or an error. */
+    private void lookBehind() {
+        due("count(5)", x.count(5), y.count(5));
+        due("count(15)", x.count(15), y.count(15));
+        int what = random.nextInt(16);
+        due("count(" + what + ")", x.count(what), y.count(what));
+        int place = random.nextInt(7);
+        int property = random.nextInt(6);
+        due("at(" + place + ", " + property + ")", x.at(place, property), y.at(place, property));
+        int move = random.nextInt(19);
+        due("cost(" + move + ")", x.cost(move), y.cost(move));
+    }
+
+    /** All that can be seen of the shelf, by 96 calls. */
     private void lookAtAll() {
         for (int what = 0; what < 16; what++) {
-            Due.same(run + calls + ": count(" + what + ") behind", x.count(what), y.count(what));
+            due("count(" + what + ")", x.count(what), y.count(what));
         }
         for (int place = 0; place < 7; place++) {
             for (int what = 0; what < 6; what++) {
-                Due.same(run + calls + ": at(" + place + ", " + what + ") behind", x.at(place, what), y.at(place, what));
+                due("at(" + place + ", " + what + ")", x.at(place, what), y.at(place, what));
             }
         }
         for (int move = 0; move < 19; move++) {
-            Due.same(run + calls + ": leads(" + move + ") behind", x.leads(move), y.leads(move));
-            Due.same(run + calls + ": cost(" + move + ") behind", x.cost(move), y.cost(move));
+            due("leads(" + move + ")", x.leads(move), y.leads(move));
+            due("cost(" + move + ")", x.cost(move), y.cost(move));
         }
     }
 
+    /** As many calls as are promised: 512 at most. */
     private void walk() {
-        while (calls < 500 && !Due.anyWrong()) {
+        addSome();
+        // A text takes up to 67 calls, the last look 96.
+        while (calls <= 512 - 67 - 96 && !Due.anyWrong()) {
             switch (random.nextInt(8)) {
                 case 0:
                     text();
@@ -193,13 +219,14 @@ public final class NaiveTest {
                     break;
                 default:
                     change();
-                    lookAtAll();
+                    lookBehind();
             }
         }
+        lookAtAll();
     }
 
     public static void main(String[] args) {
-        int runs = args.length > 0 ? Integer.parseInt(args[0]) : 60;
+        int runs = args.length > 0 ? Integer.parseInt(args[0]) : 400;
         for (int seed = 0; seed < runs && !Due.anyWrong(); seed++) {
             new NaiveTest(seed).walk();
         }

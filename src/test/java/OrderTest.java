@@ -127,11 +127,7 @@ public final class OrderTest {
         Due.same(word + ", by cost " + byCost + ", behind the last", x.plan(byCost, moves.length), Given.NOWHERE);
         for (int move : moves) {
             Due.same("as the sentence tells", plannedMove(x, byCost), move);
-            if (move < 7) {
-                x.pull(move);
-            } else {
-                x.push((move - 7) % 6, move < 13);
-            }
+            Given.make(x, move);
         }
         Due.same("in order behind it", x.count(3), 1);
     }
@@ -157,6 +153,23 @@ public final class OrderTest {
         plans(Given.shelf("..cba..", "..595.."), true, 3, 4, 2, 3, 0, 2);
         plans(Given.stuck(Given.shelf("ba....."), 0), true, 7, 8, 9, 10, 11, 6);
         plans(Given.shelf("ab....."), true);
+    }
+
+    private static void plansOfFiveBooks() {
+        Due.says("Promise 20", "Returns the number of the move");
+        for (boolean byCost : new boolean[] {false, true}) {
+            ShelfSpines x = Given.shelf("edcba..", "29153..");
+            int due = x.least(x.count(5), byCost ? 1 : 0);
+            int moves = 0;
+            for (int move = x.plan(byCost, 0); move >= 0 && moves < 20; move = x.plan(byCost, 0)) {
+                Due.same("by cost " + byCost + ", move " + moves, move, plannedMove(x, byCost));
+                Given.make(x, move);
+                moves++;
+            }
+            Due.same("by cost " + byCost + ", made", x.count(8), moves);
+            Due.same("by cost " + byCost + ", as told", byCost ? x.count(9) : moves, due);
+            Due.same("by cost " + byCost + ", in order behind it", x.count(3), 1);
+        }
     }
 
     // ---- promise 19
@@ -197,6 +210,10 @@ public final class OrderTest {
             none += cost < 0 ? 1 : 0;
         }
         Due.same("none from some", none, 210 - x.all(0));
+        ShelfSpines y = Given.stuck(Given.shelf("dbaec..", "91837.."), 1);
+        for (int rank = 0; rank < 2520; rank += 17) {
+            Due.same("5 books, least(" + rank + ", ..)", y.least(rank, 2), y.least(rank, 1));
+        }
     }
 
     private static void leastOfNow() {
@@ -221,6 +238,45 @@ public final class OrderTest {
         Due.same("a book more, the same rank", x.least(last, 0), Given.shelf("bac....").least(last, 0));
         x.remove(2);
         Due.same("a book less", x.least(last, 0), 1);
+    }
+
+    /** What can be told of all words, and of some of them. */
+    private static String far(ShelfSpines x) {
+        StringBuilder found = new StringBuilder(Given.word(x));
+        for (int what = 0; what < 5; what++) {
+            found.append(' ').append(x.all(what));
+        }
+        found.append(' ').append(x.mean()).append(' ').append(x.loosen());
+        for (int what = 0; what < 3; what++) {
+            found.append(' ').append(x.least(x.count(5), what)).append(' ').append(x.least(x.count(6) - 1, what));
+        }
+        return found.append(' ').append(x.plan(false, 0)).append(' ').append(x.plan(true, 0)).toString();
+    }
+
+    private static ShelfSpines some(String word, int books, int closed) {
+        ShelfSpines x = new ShelfSpines();
+        for (int book = 0; book < books; book++) {
+            x.add(word.charAt(book) - 'a', 9 - book, book);
+        }
+        x.set(ShelfSpines.CLOSED, closed);
+        return x;
+    }
+
+    private static void farOfNow() {
+        Due.says("Words", "All words that the books of now can make");
+        String word = "dbeca";
+        ShelfSpines x = new ShelfSpines();
+        for (int books = 1; books <= 5; books++) {
+            x.add(word.charAt(books - 1) - 'a', 10 - books, books - 1);
+            for (int closed = 0; closed < 2; closed++) {
+                x.set(ShelfSpines.CLOSED, closed);
+                Due.same("up to " + books + " books, closed " + closed, far(x), far(some(word, books, closed)));
+            }
+        }
+        for (int books = 4; books >= 0; books--) {
+            x.remove(books);
+            Due.same("down to " + books + " books", far(x), far(some(word, books, 1)));
+        }
     }
 
     private static void leastNotFound() {
@@ -463,9 +519,11 @@ public final class OrderTest {
         leastRanges();
         sameBothWays();
         leastOfNow();
+        farOfNow();
         leastNotFound();
         planByCost();
         planRange();
+        plansOfFiveBooks();
         allRange();
         allOfThem();
         allThatCanBeReached();

@@ -172,6 +172,19 @@ public final class TextsTest {
         Due.same("60", Given.type(x, FULL_PROGRAM).clear(), 60);
     }
 
+    private static void nothingOfAnOlderText() {
+        Due.says("Promise 9", "Empties the pad");
+        ShelfSpines x = Given.shelf("a......");
+        Due.same("60 characters", Given.type(x, "p0p1".repeat(15)).run(), 30);
+        Due.same("2 characters", Given.type(x, "p0").run(), 1);
+        Due.same("back", Given.type(x, "p1").run(), 1);
+        Due.same("2 characters come round", Given.type(x, "p0").round(2), 0);
+        Due.same("1 character", Given.type(x, "p").fault(0), 1);
+        Given.type(x, "......a").arrange();
+        Due.same("what arrange took", Given.type(x, ".").fault(1), 1);
+        Due.same("and as a program", Given.type(x, "").fault(0), 0);
+    }
+
     // ---- promise 10
 
     private static void fault() {
@@ -199,6 +212,12 @@ public final class TextsTest {
         Due.same("of now", x.count(5), 41);
         Due.same("no books", Given.type(new ShelfSpines(), ".......").arrange(), 0);
         Due.same("5 books", Given.type(Given.shelf("abcde.."), "edcba..").arrange(), 2519);
+        for (int rank = 0; rank < 2520; rank += 89) {
+            ShelfSpines y = Given.shelf("eb.a.cd");
+            String word = Given.word(y, rank);
+            Due.same(word, Given.type(y, word).arrange(), rank);
+            Due.same(word + " stands there", Given.word(y), word);
+        }
         Due.says("Promise 11", "NOT_POSSIBLE if the pad has a fault, read as a word.");
         Due.same("empty", x.arrange(), Given.IMPOSSIBLE);
         for (String text : new String[] {"ab....", "ab......", "a......", "abc....", "aab....", "p0"}) {
@@ -322,6 +341,7 @@ public final class TextsTest {
         leadAndCycle();
         append();
         clear();
+        nothingOfAnOlderText();
         fault();
         arrange();
         arrangeCountsNoMove();
