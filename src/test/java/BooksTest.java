@@ -109,9 +109,10 @@ public final class BooksTest {
         Due.same("a", x.remove(0), 0);
         Due.same("the gap that it left", x.remove(0), Given.IMPOSSIBLE);
         Due.same("m", x.remove(2), 12);
-        Due.same("books", x.count(0), 0);
-        Due.same("words", x.count(6), 1);
         Due.same("the word", Given.word(x), ".......");
+        for (int what = 0; what <= 14; what++) {
+            Due.same("the last one is removed, count(" + what + ")", x.count(what), new ShelfSpines().count(what));
+        }
     }
 
     private static void removeLeavesTheOthers() {

@@ -73,7 +73,8 @@ public final class ChangesTest {
         calls.put("a pull that is refused", x -> x.pull(6));
         calls.put("push", x -> x.push(0, true));
         calls.put("a push that is refused", x -> x.push(0, false));
-        calls.put("set", x -> x.set(ShelfSpines.CLOSED, 1));
+        calls.put("set CLOSED", x -> x.set(ShelfSpines.CLOSED, 1));
+        calls.put("set FALLING", x -> x.set(ShelfSpines.FALLING, 0));
         calls.put("set to what it is", x -> x.set(ShelfSpines.CLOSED, 0));
         calls.put("arrange", x -> Given.type(x, "b..d.fh").arrange());
         calls.put("arrange as it is", x -> Given.type(x, Given.word(x)).arrange());
